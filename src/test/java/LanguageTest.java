@@ -128,7 +128,8 @@ public final class LanguageTest {
         for (Method method : one.getDeclaredMethods()) {
             CHECKS.due(method + ": seven parameters at most", Math.max(method.getParameterCount(), 7), 7);
             boolean isOfTheFace = one == Ropeloft.class && isOpen(method);
-            CHECKS.dueText(method + " bears a public name", isOfTheFace || !open.contains(method.getName()) ? "" : "yes", "");
+            boolean isNameTaken = !isOfTheFace && open.contains(method.getName());
+            CHECKS.due(method + " bears a public name", isNameTaken ? 1 : 0, 0);
         }
     }
 

@@ -12,10 +12,20 @@ public final class Checks {
 
     private String part = "";
     private int asked;
+    private int askedBefore;
     private int wrong;
 
+    /** A part in which nothing is looked at would hold whatever the class does, so it counts as wrong. */
     public void begin(String name) {
+        endPart();
         part = name;
+        askedBefore = asked;
+    }
+
+    private void endPart() {
+        if (!part.isEmpty() && asked == askedBefore) {
+            fail("nothing was looked at");
+        }
     }
 
     public void due(String what, long got, long want) {
@@ -29,6 +39,15 @@ public final class Checks {
         asked++;
         if (!got.equals(want)) {
             fail(what + " answered " + got + ", due is " + want);
+        }
+    }
+
+    public void dueNoThrow(String what, Call call) {
+        asked++;
+        try {
+            call.answer();
+        } catch (RuntimeException e) {
+            fail(what + " threw " + e + ", due is an answer");
         }
     }
 
@@ -52,6 +71,7 @@ public final class Checks {
     }
 
     public void end() {
+        endPart();
         System.out.println(asked + " answers looked at, " + wrong + " not as due");
         if (wrong != 0 || asked == 0) {
             System.exit(1);
